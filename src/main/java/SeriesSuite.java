@@ -460,8 +460,8 @@ public final class SeriesSuite {
         for (int level = 0; level < LEVELS; level++) {
             int half = SIZE >> level;
             int root = power(ROOT, 1 << level);
-            for (int start = 0; start < WIDE; start += 2 * half) {
-                partHalves(a, start, half, root);
+            for (int block = 0; block < 1 << level; block++) {
+                partHalves(a, block * 2 * half, half, root);
             }
         }
     }
@@ -470,8 +470,8 @@ public final class SeriesSuite {
         for (int level = LEVELS - 1; level >= 0; level--) {
             int half = SIZE >> level;
             int root = power(ROOT_INVERSE, 1 << level);
-            for (int start = 0; start < WIDE; start += 2 * half) {
-                joinHalves(a, start, half, root);
+            for (int block = 0; block < 1 << level; block++) {
+                joinHalves(a, block * 2 * half, half, root);
             }
         }
     }
