@@ -1,13 +1,41 @@
 /** Counts and prints the answers that are not the ones due; finish() ends the test with its exit code. */
 final class Check {
+    /** Enough to see what is wrong: a broken sum can make a hundred thousand answers wrong. */
+    private static final int PRINTED = 20;
+
     private int asked = 0;
     private int wrong = 0;
+    private int sentences = 0;
+    private int askedBefore = 0;
+    private int wrongBefore = 0;
+    private String sentence = "";
+
+    /** The answers from here on belong to this sentence of the document; it must have at least one. */
+    void sentence(String where, String words) {
+        endSentence();
+        sentences++;
+        sentence = where + ", \"" + words + "\": ";
+        askedBefore = asked;
+        wrongBefore = wrong;
+    }
+
+    private void endSentence() {
+        if (!sentence.isEmpty() && asked == askedBefore) {
+            wrong++;
+            System.out.println(sentence + "nothing was asked");
+        }
+        if (wrong - wrongBefore > PRINTED) {
+            System.out.println(sentence + (wrong - wrongBefore - PRINTED) + " more were not as due");
+        }
+    }
 
     void due(String call, long got, long want) {
         asked++;
         if (got != want) {
             wrong++;
-            System.out.println(call + " answered " + got + ", due is " + want);
+            if (wrong - wrongBefore <= PRINTED) {
+                System.out.println(sentence + call + " answered " + got + ", due is " + want);
+            }
         }
     }
 
@@ -23,7 +51,9 @@ final class Check {
     }
 
     void finish() {
-        System.out.println(asked + " answers, " + wrong + " not as due");
+        endSentence();
+        String of = sentences == 0 ? "" : sentences + " sentences, ";
+        System.out.println(of + asked + " answers, " + wrong + " not as due");
         if (wrong != 0) {
             System.exit(1);
         }

@@ -1,7 +1,8 @@
 /** Runs of 512 mixed calls, all 18 promises together, each answer held against the reference. */
 public final class MixedRunsTest {
-    private static final int RUNS = 200;
+    private static final int RUNS = 400;
     private static final int CALLS = 512;
+    private static final int CELLS = 160;
     private static final Check CHECK = new Check();
 
     private final SeriesSuite x = new SeriesSuite();
@@ -17,8 +18,13 @@ public final class MixedRunsTest {
     public static void main(String[] args) {
         for (int run = 0; run < RUNS; run++) {
             MixedRunsTest mixed = new MixedRunsTest(run);
-            for (int call = 0; call < CALLS; call++) {
+            // Every other run ends with a look at all coefficients, which the 512 calls must leave room for.
+            boolean looks = run % 2 == 1;
+            for (int call = 0; call < (looks ? CALLS - CELLS : CALLS); call++) {
                 mixed.callOne();
+            }
+            if (looks) {
+                mixed.lookAtAll();
             }
         }
         CHECK.finish();
@@ -51,9 +57,15 @@ public final class MixedRunsTest {
         }
     }
 
+    private void lookAtAll() {
+        for (int s = 0; s < 5; s++) {
+            CHECK.dueSeries("run " + run + " at its end", x, s, want[s]);
+        }
+    }
+
     private void change(int s) {
-        int i = maybeOutside(32);
-        int v = numbers.intOrEdge();
+        int i = numbers.below(4) == 0 ? numbers.below(2) * 31 : maybeOutside(32);
+        int v = numbers.below(4) == 0 ? 0 : numbers.intOrEdge();
         int w = numbers.intOrEdge();
         boolean fine = inside(s, 5) && inside(i, 32);
         if (numbers.below(2) == 0) {
