@@ -12,7 +12,8 @@ import java.util.StringJoiner;
 import java.util.TreeSet;
 
 /**
- * The class has the public face of the document's code block, line for line, and keeps to rules 1, 2 and 5 of LANGUAGE.md.
+ * The class has the public face of the document's code block, line for line, and keeps to what reflection shows of the
+ * rules 1, 2, 5 and 10 of LANGUAGE.md.
  * The names of the parameters are seen only if the class is compiled with -parameters.
  */
 public final class FaceTest {
